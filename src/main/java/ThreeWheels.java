@@ -1528,6 +1528,7 @@ public final class ThreeWheels {
         private final int[] quickByLean = new int[2 * LEAN_ROOM + 1];
         private final int[] tried = new int[MOST_LOADS];
         private final int[] best = new int[MOST_LOADS];
+        private int triedSum = 0;
 
         Plans(State planned, Judge asked) {
             state = planned;
@@ -1622,8 +1623,10 @@ public final class ThreeWheels {
         int bestLeans(int bend, int wanted) {
             Loads loads = state.loads;
             Arrays.fill(quickByLean, NONE);
+            triedSum = 0;
             for (int i = 0; i < MOST_LOADS; i++) {
                 tried[i] = loads.has(i) && loads.alive[i] == 1 ? -MOST_LEAN : 0;
+                triedSum += tried[i] * loads.weight[i];
             }
             int quickest = NONE;
             boolean more = true;
@@ -1644,31 +1647,31 @@ public final class ThreeWheels {
 
         // How quick one is depends on the leans by their weighted sum alone, so that it is asked once for each.
         private int quickAsTried(int bend) {
-            int sum = 0;
-            for (int i = 0; i < MOST_LOADS; i++) {
-                sum += tried[i] * state.loads.weight[i];
-            }
-            int k = sum + LEAN_ROOM;
+            int k = triedSum + LEAN_ROOM;
             if (k < 0 || k >= quickByLean.length) {
                 return 0;
             }
             if (quickByLean[k] == NONE) {
-                judge.words[Judge.LEANED] = sum;
+                judge.words[Judge.LEANED] = triedSum;
                 quickByLean[k] = judge.quickest(bend);
             }
             return quickByLean[k];
         }
 
+        /** False behind the last row of leans. */
         private boolean nextTry() {
+            Loads loads = state.loads;
             for (int i = MOST_LOADS - 1; i >= 0; i--) {
-                if (!state.loads.has(i) || state.loads.alive[i] != 1) {
+                if (!loads.has(i) || loads.alive[i] != 1) {
                     continue;
                 }
                 if (tried[i] < MOST_LEAN) {
                     tried[i]++;
+                    triedSum += loads.weight[i];
                     return true;
                 }
                 tried[i] = -MOST_LEAN;
+                triedSum -= 2 * MOST_LEAN * loads.weight[i];
             }
             return false;
         }

@@ -128,6 +128,14 @@ public final class PromisesTest {
         law(x, "bans if 1 / 0 = 1");
         x.force(3);
         due("a broken if", x.of(1, 4), 0);
+        law(x, "bans if bars * 10 + mood = 37");
+        x.force(4);
+        x.bars(3);
+        due("bars and mood", x.of(0, 4), 0);
+        x.terms(2, 7);
+        due("bars and mood", x.of(0, 4), 1);
+        x.bars(4);
+        due("bars and mood", x.of(0, 4), 0);
     }
 
     private static void promise4() {
@@ -540,6 +548,8 @@ public final class PromisesTest {
         fault(true, "gas", 3);
         fault(true, "put 0", 5);
         fault(true, "put 0 by 1", 6);
+        fault(true, "put 0 1", 6);
+        fault(true, "lean 0 1", 7);
         fault(true, "lean 0 at 1", 7);
         fault(true, "lean by 1", 5);
         fault(true, "ride 1", 5);
@@ -789,6 +799,13 @@ public final class PromisesTest {
         due("barred where it was", x.put(0, 1), -3);
         due("undo", x.undo(), 3);
         due("barred, but undone", x.of(0, 1), 1);
+        law(x, "bans if bars = 3");
+        x.force(1);
+        due("bars are 0", x.put(0, 2), 1);
+        x.bars(3);
+        due("bars are 3", x.put(0, 1), -3);
+        x.bars(-3);
+        due("bars are below 0", x.put(0, 1), 2);
     }
 
     private static void promise22() {
@@ -1042,6 +1059,14 @@ public final class PromisesTest {
         due("feared", x.soonest(0), 8);
         due("feared", x.soonest(-1), 4 * 450);
 
+        law(x, "fears 1 if turn = 0");
+        x.force(2);
+        int[] slow = {1, 4, 1, 1};
+        for (int i = 0; i < 4; i++) {
+            due("at pace 1", x.soonest(i), slow[i]);
+        }
+        due("at pace 1", x.soonest(-1), 3 * 3600 + 900);
+
         ThreeWheels cut = new ThreeWheels();
         cut.bend(0, 1, 0, 0);
         cut.bend(0, 1, 0, 0);
@@ -1144,6 +1169,30 @@ public final class PromisesTest {
         for (int i = 0; i < 4; i++) {
             due("none", x.leaning(0, i), none[i]);
         }
+        ThreeWheels six = under("fears 30; fears 40 if lean = 1000 + 113; fears 50 if lean = 1000 + 114");
+        for (int weight = 1; weight <= 1000; weight *= 5) {
+            six.load(Math.min(200, weight), 0, 1);
+        }
+        six.bend(0, 9, 0, 0);
+        due("five loads, the last 200 at most", six.count(0), 5);
+        six.load(200, 2, 1);
+        // 1 + 5 + 25 + 125 + 200 + 200, twice at most: 1112.
+        due("none of these", six.leaning(0, 0), 30);
+        due("the first row", six.leaning(0, 6), 0);
+        law(six, "fears 30; fears 40 if lean = 1000+112; fears 50 if lean = 1000+111; fears 45 if lean + 1000 + 112 = 0");
+        six.force(1);
+        int[] row = {50, 3, 4, 4, 4, 4, 4};
+        for (int i = 0; i < 7; i++) {
+            due("all six", six.leaning(0, i), row[i]);
+        }
+        law(six, "fears 30; fears 40 if lean = 1000+112");
+        six.force(2);
+        due("the last row", six.leaning(0, 0), 40);
+        due("the last row", six.leaning(0, 6), 4);
+        law(six, "fears 30; fears 40 if lean + 912 = 0");
+        six.force(3);
+        due("the sixth", six.leaning(0, 6), 1);
+        due("the fifth", six.leaning(0, 5), 0);
         law(x, "holds 900 if lean = 0 - 30; holds 0");
         x.force(1);
         due("0 whoever leans: the last clause", x.leaning(0, 0), 0);
@@ -1347,6 +1396,14 @@ public final class PromisesTest {
         x.put(0, 0);
         x.sight(0, 35, 1);
         due("spots as they are", x.aboard(-1), 0);
+        law(x, "holds bars * 9");
+        x.force(0);
+        x.bars(9);
+        x.forget();
+        x.sight(0, 9, 1);
+        due("bars as they are", x.aboard(-1), 8);
+        x.bars(8);
+        due("bars as they are", x.aboard(-1), 0);
     }
 
     private static void promise36() {
