@@ -51,7 +51,6 @@ public final class ThreeWheels {
     private final State now = new State();
     private final State before = new State();
     private final State[] images = new State[IMAGES];
-    private final boolean[] imageKept = new boolean[IMAGES];
     private final History history = new History();
     private final History historyBefore = new History();
     private final Tape tape = new Tape();
@@ -69,10 +68,8 @@ public final class ThreeWheels {
     private int mudSeen = 0;
     private int latestStatus = 0;
 
+    /** An empty car on no road. */
     public ThreeWheels() {
-        for (int k = 0; k < IMAGES; k++) {
-            images[k] = new State();
-        }
     }
 
     public int load(int weight, int spot, int alive) {
@@ -565,8 +562,12 @@ public final class ThreeWheels {
         if (!within(k, 0, IMAGES - 1)) {
             return settle(BAD_NUMBER);
         }
-        images[k].copyFrom(now);
-        imageKept[k] = true;
+        State kept = images[k];
+        if (kept == null) {
+            kept = new State();
+            images[k] = kept;
+        }
+        kept.copyFrom(now);
         return settle(0);
     }
 
@@ -574,10 +575,11 @@ public final class ThreeWheels {
         if (!within(k, 0, IMAGES - 1)) {
             return settle(BAD_NUMBER);
         }
-        if (!imageKept[k]) {
+        State kept = images[k];
+        if (kept == null) {
             return settle(NO_SUCH);
         }
-        now.copyFrom(images[k]);
+        now.copyFrom(kept);
         history.size = 0;
         return settle(0);
     }
@@ -1265,8 +1267,8 @@ public final class ThreeWheels {
 
     /** Works out the sums and tests of a program. */
     private static final class Calc {
-        static final long BROKEN = Long.MIN_VALUE;
         static final long MOST = 1000000000L;
+        static final long BROKEN = 2 * MOST;
         // More than the parts of one text, each of which is put on it once.
         private final long[] stack = new long[Parser.MOST_PARTS + 2];
 

@@ -115,8 +115,7 @@ public final class LanguageTest {
         Pattern banned = Pattern.compile("\\b(throw|throws|try|catch|finally|synchronized|assert|package|float|double|Object|"
             + "equals|hashCode|toString|abstract|protected|volatile|transient|native|var|record|enum|yield)\\b|->|::|\\+ \"|\" \\+|Exact");
         Pattern library = Pattern.compile("\\b(System|Arrays|Math|Integer|Long|Character|String|Thread)\\.(\\w+)");
-        List<String> fine = Arrays.asList("System.arraycopy", "Arrays.fill", "Math.min", "Math.max", "Math.abs", "Integer.bitCount",
-            "Long.MIN_VALUE");
+        List<String> fine = Arrays.asList("System.arraycopy", "Arrays.fill", "Math.min", "Math.max", "Math.abs", "Integer.bitCount");
         int methodFrom = -1;
         Pattern head = Pattern.compile("^( {4}| {8})(public|private|static|int|long|boolean|void|Program|[A-Z]\\w*\\()[^;=]*\\{$");
         for (int i = 0; i < lines.size(); i++) {
